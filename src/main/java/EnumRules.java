@@ -19,8 +19,8 @@ public final class EnumRules {
     private Program spare = new Program();
     private Tape tape = new Tape();
     private final Faults faults = new Faults();
-    private final Parser parser = new Parser(new Tokens(faults), faults);
-    private final Binder binder = new Binder(faults);
+    private final Parser parser = new Parser();
+    private final Binder binder = new Binder();
     private final Runner runner = new Runner();
     private final int[] handPlaces = new int[CONSTANTS];
     private int handEnum;
@@ -55,8 +55,8 @@ public final class EnumRules {
     public int load() {
         faults.forget();
         spare.begin(tape);
-        if (parser.readText(spare)) {
-            binder.bind(spare);
+        if (parser.readText(spare, faults)) {
+            binder.bind(spare, faults);
         }
         if (faults.number != 0) {
             tape.length = 0;
@@ -352,7 +352,7 @@ public final class EnumRules {
         int firstNamed(int place, int[] names, int many) {
             int letters = nameLength(place);
             for (int k = 0; k < many && k < names.length; k++) {
-                if (nameLength(names[k]) == letters && same(place, this, names[k], letters)) {
+                if (same(place, this, names[k], letters) && nameLength(names[k]) == letters) {
                     return k;
                 }
             }
@@ -370,16 +370,11 @@ public final class EnumRules {
 
         // Kind, place and number in one; a row more than bytes, for FINISH.
         final long[] rows = new long[TAPE_BYTES + 1];
-        final Faults faults;
         int size;
         int next;
         int kind;
         int place;
         int number;
-
-        Tokens(Faults faults) {
-            this.faults = faults;
-        }
 
         void split(Tape text) {
             size = 0;
@@ -444,12 +439,7 @@ public final class EnumRules {
         }
 
         boolean take(int wanted) {
-            return kind == wanted ? advance() : stop();
-        }
-
-        boolean stop() {
-            faults.noteText(place);
-            return false;
+            return kind == wanted && advance();
         }
     }
 
@@ -660,39 +650,37 @@ public final class EnumRules {
         }
     }
 
-    /** Reads a text by its grammar; each read method answers whether the text goes on. */
+    /**
+     * Reads a text by its grammar. Each read method answers whether the text goes on; where it does not, the token at
+     * which it stops is left as the one to be read, so that its place is the fault's.
+     */
     private static final class Parser {
-        final Tokens tokens;
-        final Faults faults;
-        final ExpReader exps;
+        final Tokens tokens = new Tokens();
+        final ExpReader exps = new ExpReader();
         Program program;
+        Faults faults;
         Enumeration open;
 
-        Parser(Tokens tokens, Faults faults) {
-            this.tokens = tokens;
-            this.faults = faults;
-            this.exps = new ExpReader(tokens, faults);
-        }
-
-        boolean readText(Program into) {
+        boolean readText(Program into, Faults itsFaults) {
             program = into;
-            exps.program = into;
+            faults = itsFaults;
             tokens.split(into.text);
-            for (int k = 0; k <= ENUMS; k++) {
+            exps.begin(tokens, into, itsFaults);
+            boolean goesOn = true;
+            for (int k = 0; k <= ENUMS && goesOn; k++) {
                 if (tokens.kind == Tokens.FINISH) {
                     return true;
                 }
-                if (!(tokens.take(Tokens.ENUM) && openEnum() && tokens.take('{')
-                        && readConstants() && readMembers() && tokens.take('}'))) {
-                    return false;
-                }
+                goesOn = tokens.take(Tokens.ENUM) && openEnum() && tokens.take('{')
+                    && readConstants() && readMembers() && tokens.take('}');
             }
-            return tokens.stop();
+            faults.noteText(tokens.place);
+            return false;
         }
 
         private boolean openEnum() {
             if (tokens.kind != Tokens.NAME || program.size >= ENUMS) {
-                return tokens.stop();
+                return false;
             }
             program.put(Op.IN_ENUM, program.size);
             open = program.addEnum(tokens.place);
@@ -705,7 +693,7 @@ public final class EnumRules {
             }
             for (int k = 0; k <= CONSTANTS; k++) {
                 if (tokens.kind != Tokens.NAME || !open.addConstant(tokens.place)) {
-                    return tokens.stop();
+                    return false;
                 }
                 if (!(tokens.advance() && readArg() && readBody())) {
                     return false;
@@ -715,7 +703,7 @@ public final class EnumRules {
                 }
                 tokens.advance();
             }
-            return tokens.stop();
+            return false;
         }
 
         private boolean readArg() {
@@ -772,7 +760,7 @@ public final class EnumRules {
         private boolean readAbstract() {
             tokens.advance();
             if (tokens.kind != Tokens.NAME || !open.addMember(tokens.place, MISSING)) {
-                return tokens.stop();
+                return false;
             }
             return tokens.advance() && tokens.take(';');
         }
@@ -780,7 +768,7 @@ public final class EnumRules {
         private boolean readDef() {
             tokens.advance();
             if (tokens.kind != Tokens.NAME || !open.addMember(tokens.place, program.codeSize)) {
-                return tokens.stop();
+                return false;
             }
             return tokens.advance() && tokens.take('=') && exps.read(ExpReader.IN_MEMBER) && tokens.take(';');
         }
@@ -788,7 +776,7 @@ public final class EnumRules {
         private boolean readField() {
             tokens.advance();
             if (tokens.kind != Tokens.NAME || !open.addField(tokens.place, program.codeSize)) {
-                return tokens.stop();
+                return false;
             }
             return tokens.advance() && tokens.take('=') && exps.read(ExpReader.IN_FIELD) && tokens.take(';');
         }
@@ -796,7 +784,7 @@ public final class EnumRules {
         private boolean readConst() {
             tokens.advance();
             if (tokens.kind != Tokens.NAME || !open.addField(tokens.place, MISSING)) {
-                return tokens.stop();
+                return false;
             }
             if (!(tokens.advance() && tokens.take('='))) {
                 return false;
@@ -826,20 +814,21 @@ public final class EnumRules {
         static final int OPEN = MISSING;
         static final int JOINS_LOOSELY = 1, JOINS_CLOSELY = 2, BINDS_ONE = 3;
 
-        final Tokens tokens;
-        final Faults faults;
         // On each level one + or - and one * or / may wait, beside all that are nested.
         final int[] pile = new int[NESTED + 2 * (NESTED + 1)];
+        Tokens tokens;
         Program program;
+        Faults faults;
         int sort;
         int waiting;
         int opened;
         int nested;
         int signs;
 
-        ExpReader(Tokens tokens, Faults faults) {
-            this.tokens = tokens;
-            this.faults = faults;
+        void begin(Tokens itsTokens, Program into, Faults itsFaults) {
+            tokens = itsTokens;
+            program = into;
+            faults = itsFaults;
         }
 
         boolean read(int itsSort) {
@@ -860,13 +849,13 @@ public final class EnumRules {
                     return false;
                 }
             }
-            return tokens.stop();
+            return false;
         }
 
         private boolean readNesting() {
             for (int k = 0; k <= NESTED && (tokens.kind == '(' || tokens.kind == '-'); k++) {
                 if (nested >= NESTED) {
-                    return tokens.stop();
+                    return false;
                 }
                 nested++;
                 if (tokens.kind == '(') {
@@ -885,7 +874,7 @@ public final class EnumRules {
                 case Tokens.ARG: return readWord(Op.ARG, sort == IN_MAKER);
                 case Tokens.VAL: return readWord(Op.VAL, sort == IN_MEMBER);
                 case Tokens.PLACE: return readWord(Op.PLACE, sort != IN_FIELD);
-                default: return tokens.stop();
+                default: return false;
             }
         }
 
@@ -896,7 +885,8 @@ public final class EnumRules {
                 return program.put(Op.FIELD, name);
             }
             tokens.advance();
-            return program.put(Op.CONSTANT, name * Tokens.PLACES + tokens.place) && tokens.take(Tokens.NAME);
+            return tokens.kind == Tokens.NAME && program.put(Op.CONSTANT, name * Tokens.PLACES + tokens.place)
+                && tokens.advance();
         }
 
         private boolean readWord(int op, boolean fits) {
@@ -932,7 +922,7 @@ public final class EnumRules {
         /** The signs inside of parentheses are signs of the whole exp, too. */
         private boolean readSign(int op) {
             if (signs >= SIGNS) {
-                return tokens.stop();
+                return false;
             }
             signs++;
             putWaiting(strengthOf(op));
@@ -942,7 +932,7 @@ public final class EnumRules {
 
         private boolean finishExp() {
             if (opened > 0) {
-                return tokens.stop();
+                return false;
             }
             putWaiting(JOINS_LOOSELY);
             return program.put(Op.STOP, 0);
@@ -978,18 +968,15 @@ public final class EnumRules {
 
     /** Finds what the names in the code mean: only when the text has been read whole is all told that they may mean. */
     private static final class Binder {
-        final Faults faults;
         Program program;
+        Faults faults;
         Enumeration open;
         int constant;
         boolean inMaker;
 
-        Binder(Faults faults) {
-            this.faults = faults;
-        }
-
-        void bind(Program read) {
+        void bind(Program read, Faults itsFaults) {
             program = read;
+            faults = itsFaults;
             open = null;
             constant = 0;
             inMaker = false;

@@ -6,6 +6,8 @@ public final class FaultsTest {
         grammar();
         tokens();
         limits();
+        cutTokens();
+        fullTapes();
         nesting();
         toldTwice();
         givesAndAbstracts();
@@ -104,6 +106,7 @@ public final class FaultsTest {
         due(1, "enum A{X|\u00ff");
         due(1, "|enumA{X}");
         due(0, "enum enum1{Enum,def2,values}");
+        due(0, "enum azAZ09{z,Z,a,A,z9,Z0}");
         for (String word : "enum abstract def field const maker arg val place".split(" ")) {
             due(1, "enum |" + word + "{X}");
             due(1, "enum A{|" + word + "}");
@@ -132,6 +135,45 @@ public final class FaultsTest {
         due(0, "enum A{X}" + times(" ", 1991));
         due(1, "enum A{X|#" + times(" ", 1991));
         due(1, "enum A{X" + times(" ", 1992) + "|");
+    }
+
+    /** What end() has cut off is still behind the tape's end in no sense. */
+    private static void cutTokens() {
+        cut("enumX", 4, 4);
+        cut("enum abcdefghijklm", 17, 17);
+        cut("enum A{X(1234567890", 18, 18);
+        cut("enum A{X}#", 9, -1);
+        cut("enum A{X}enum", 9, -1);
+    }
+
+    private static void cut(String text, int keep, int place) {
+        EnumRules x = new EnumRules();
+        Check.tape(x, text);
+        x.end(keep);
+        check.due("load of " + text + " up to " + keep, x.load(), place < 0 ? 1 : -11);
+        check.due("fault(1) of " + text + " up to " + keep, x.fault(1), place < 0 ? EnumRules.NONE : place);
+    }
+
+    private static void fullTapes() {
+        due(1, "enum A{X{" + times("m=1;", 497) + "m=|");
+        due(1, "enum A{X{" + times("m=1;", 497) + "}|#");
+        due(2, "enum A{X{m=1;|" + times("m=1;", 494) + "};def m=1;}");
+        String exp = "=1" + times("+1", 20) + ";";
+        due(2, "enum A{X{a" + exp + "|" + times("a" + exp, 43) + "};abstract a;}");
+        due(0, allEnums("l"));
+        due(2, allEnums("|e7"));
+        due(2, allEnums("|D10"));
+    }
+
+    /** As many of everything as there may be; the name is that of the very last field. */
+    private static String allEnums(String last) {
+        StringBuilder text = new StringBuilder();
+        for (int e = 0; e < 8; e++) {
+            text.append("enum A").append(e).append("{C").append(times(",D#", 11)).append(';');
+            text.append(times("def e#=1;", 8)).append(times("const k#=1;", 5));
+            text.append("const ").append(e < 7 ? "l" : last).append("=1;}");
+        }
+        return text.toString();
     }
 
     private static void nesting() {

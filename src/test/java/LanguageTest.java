@@ -86,6 +86,12 @@ public final class LanguageTest {
             Matcher m = Pattern.compile(word).matcher(code);
             check.holds("the source has no " + word, !m.find());
         }
+        for (String line : code.split("\n")) {
+            boolean makes = Pattern.compile("\\bnew\\b").matcher(line).find();
+            boolean atStart = line.matches("\\s*(private |final )[^()]*= new .*") || line.contains("loaded.begin(new Tape())")
+                || line.contains("enums[k] = new Enumeration()");
+            check.holds("only constructors make objects:" + line, !makes || atStart);
+        }
         check.holds("bytes are 0 to 127", all.chars().allMatch(c -> c < 128));
     }
 }

@@ -266,6 +266,8 @@ public final class PromisesTest {
         worth("(0-2147483*1000-648)/-1", Integer.MIN_VALUE);
         worth("-(0-2147483*1000-648)", Integer.MIN_VALUE);
         worth("000000012", 12);
+        worth("(1+2*".repeat(8) + "3" + ")".repeat(8), 1023);
+        worth("9-2*" + "(9-2*".repeat(8) + "1" + ")".repeat(8), 1027);
         fails("1/0", 2);
         fails("0/0", 2);
         fails("1/(2-2)*0", 2);
