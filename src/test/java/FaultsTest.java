@@ -16,29 +16,12 @@ public final class FaultsTest {
         check.finish("FaultsTest");
     }
 
-    /** In the text, a bar stands ahead of the place of the fault; without a bar there is none. */
     private static void due(int fault, String marked) {
-        int place = marked.indexOf('|');
-        String text = marked.replace("|", "");
-        EnumRules x = new EnumRules();
-        int answer = Check.load(x, text);
-        String shown = marked.length() > 90 ? marked.substring(0, 90) + ".." : marked;
-        if (fault == 0) {
-            check.holds("load of " + shown + " is without a fault, not " + x.fault(0) + " at " + x.fault(1), answer >= 0);
-        } else {
-            check.due("load of " + shown, answer, -10 - fault);
-        }
-        check.due("fault(0) of " + shown, x.fault(0), fault);
-        check.due("fault(1) of " + shown, x.fault(1), fault == 0 ? EnumRules.NONE : place);
-        check.due("count(3) after load of " + shown, x.count(3), 0);
+        check.fault(fault, marked);
     }
 
     private static String times(String part, int many) {
-        StringBuilder all = new StringBuilder();
-        for (int k = 0; k < many; k++) {
-            all.append(part.replace("#", "" + k));
-        }
-        return all.toString();
+        return Check.times(part, many);
     }
 
     private static void grammar() {

@@ -107,7 +107,7 @@ public final class PromisesTest {
         check.due("trace stays", x.count(1), 8);
         check.due("hand stays", x.hand(1), 14);
         check.due("state stays", x.told(1, 4), 1);
-        check.due("name of the old text", namedBy(x, 1, "Q"), 1);
+        check.due("name of the old text", Check.named(x, 1, "Q"), 1);
         check.due("load of another", Check.load(x, GONE), 3);
         check.due("trace is empty", x.count(1), 0);
         check.due("hand is empty", x.count(2), 0);
@@ -430,7 +430,7 @@ public final class PromisesTest {
         check.due("hand(0)", x.hand(0), 2);
         check.due("the constants are not touched", x.value(0, 0), 1);
         check.due("nor their places", x.compare(0, 0, 0, 2), 1);
-        check.due("nor their names", namedBy(x, 0, "X"), 0);
+        check.due("nor their names", Check.named(x, 0, "X"), 0);
         check.due("swap(0, 3)", x.swap(0, 3), OUTSIDE);
         check.due("swap(3, 0)", x.swap(3, 0), OUTSIDE);
         for (int k : WRONG) {
@@ -461,23 +461,18 @@ public final class PromisesTest {
         check.due("index", x.cause(), 4);
     }
 
-    private static int namedBy(EnumRules x, int e, String name) {
-        Check.tape(x, name);
-        return x.named(e);
-    }
-
     private static void named() {
         EnumRules x = Check.loaded("enum A{X,XY,Y,abcdefghijkl,X1;def m=1;const k=1;}enum B{Z;maker=1/0;}enum C{P;maker=D.P;}enum D{P}");
-        check.due("XY", namedBy(x, 0, "XY"), 1);
+        check.due("XY", Check.named(x, 0, "XY"), 1);
         check.traced("it starts", x, "0 1 2 3 4 5 100");
         check.due("tape is empty", x.count(3), 0);
-        check.due("X", namedBy(x, 0, "X"), 0);
+        check.due("X", Check.named(x, 0, "X"), 0);
         check.due("none", x.cause(), 0);
-        check.due("X1", namedBy(x, 0, "X1"), 4);
-        check.due("Y", namedBy(x, 0, "Y"), 2);
-        check.due("of twelve", namedBy(x, 0, "abcdefghijkl"), 3);
+        check.due("X1", Check.named(x, 0, "X1"), 4);
+        check.due("Y", Check.named(x, 0, "Y"), 2);
+        check.due("of twelve", Check.named(x, 0, "abcdefghijkl"), 3);
         for (String other : new String[] {"x", "X2", "X ", " X", "X\n", "XYZ", "m", "k", "A", "abcdefghijk", "abcdefghijklm", "1", "X,", "enum", "Z"}) {
-            check.due(other, namedBy(x, 0, other), 0);
+            check.due(other, Check.named(x, 0, other), 0);
             check.due("argument", x.cause(), 3);
             check.due("tape is empty", x.count(3), 0);
         }
@@ -490,7 +485,7 @@ public final class PromisesTest {
         }
         check.due("the tape stays", x.count(3), 1);
         check.due("the name stays", x.named(0), 2);
-        check.due("of a gone one", namedBy(x, 1, "Z"), 0);
+        check.due("of a gone one", Check.named(x, 1, "Z"), 0);
         check.due("arithmetic", x.cause(), 2);
         check.due("tape is empty", x.count(3), 0);
         check.due("empty, of a gone one", x.named(1), 0);
@@ -598,7 +593,7 @@ public final class PromisesTest {
         check.due("load after", Check.load(x, TWO), 2);
         check.due("value after", x.value(1, 1), 14);
         check.due("count(4) after", x.count(4), 0);
-        check.due("named after", namedBy(x, 1, "Q"), 1);
+        check.due("named after", Check.named(x, 1, "Q"), 1);
         check.due("clear", x.clear(), 2);
     }
 }
