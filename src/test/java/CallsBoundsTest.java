@@ -19,8 +19,10 @@ public final class CallsBoundsTest {
         feedRoom();
         end();
         endThenFeed();
+        endCutsTokens();
         loadEmptiesTape();
         loadTakesPlace();
+        loadAfterLoads();
         loadWithFault();
         loadAnswers();
         fault();
@@ -173,6 +175,38 @@ public final class CallsBoundsTest {
         check.due("fault(1)", x.fault(1), 8);
     }
 
+    /** What was cut off belongs to no token any more. */
+    private static void endCutsTokens() {
+        says(3, "THE TAPE keeps its first n bytes: n.");
+        EnumRules x = new EnumRules();
+        cut(x, "enum A{X}}", 9, 1);
+        cut(x, "enum A{X}enum", 9, 1);
+        cut(x, "enumA", 4, -11);
+        check.due("the word is whole", x.fault(1), 4);
+        cut(x, "enum abcdefghijklm", 17, -11);
+        check.due("a name of twelve", x.fault(1), 17);
+        cut(x, "enum A{X(1234567890", 18, -11);
+        check.due("a number of nine", x.fault(1), 18);
+        cut(x, "enum A{X(12)}", 13, 1);
+        Check.tape(x, "XY");
+        x.end(1);
+        check.due("a shorter name", x.named(0), 0);
+        check.due("cause", x.cause(), 0);
+        cut(x, "enum A{XY}      ", 8, -11);
+        check.due("the name is whole", x.fault(1), 8);
+        Check.load(x, "enum A{X,XY}");
+        Check.tape(x, "XYZ");
+        x.end(2);
+        check.due("a shorter name", x.named(0), 1);
+        check.due("cause", x.cause(), 0);
+    }
+
+    private static void cut(EnumRules x, String text, int keep, int answer) {
+        Check.tape(x, text);
+        check.due("end(" + keep + ")", x.end(keep), keep);
+        check.due("load of " + text.substring(0, keep), x.load(), answer);
+    }
+
     // ---- load
 
     private static void loadEmptiesTape() {
@@ -217,6 +251,40 @@ public final class CallsBoundsTest {
         check.due("load of an empty text", x.load(), 0);
         check.due("count(0)", x.count(0), 0);
         check.due("count(1)", x.count(1), 0);
+    }
+
+    private static final String[] ROUNDS = {TEXT, TWELVE, "enum Z{P}", "",
+        "enum A{X{m=1;},Y(7){m=val;n=2;};abstract m;def n=place;field f=A.Y;const k=3;maker=arg+k;}enum B{P{};maker=A.X;}",
+        "enum A{X,Y,Z;maker=A.Y;}enum B{;field f=g+1;field g=f;}enum C{P{},Q;field f=g+1;field g=f;def m=val+1;}",
+        "enum A{X;def m=" + Check.times("(-", 4) + "1+", "enum A{X;maker=1*(-(1" + Check.times("+1", 20), "enum A{X;maker=2-3*;}",
+        "enum A{X{m=arg;};field f=q;maker=f;abstract n;}"};
+
+    /** A third load comes into the rows of the first one: nothing of what was there may be seen. */
+    private static void loadAfterLoads() {
+        says(4, "without a FAULT its ENUMS take the place of all, THE TRACE and THE HAND are empty");
+        for (String first : ROUNDS) {
+            for (String second : ROUNDS) {
+                for (String third : ROUNDS) {
+                    EnumRules x = Check.loaded(TEXT);
+                    load(x, first);
+                    load(x, second);
+                    EnumRules y = new EnumRules();
+                    int answer = Check.load(y, third);
+                    check.due("load of " + third, Check.load(x, third), answer);
+                    check.due("fault(1) of " + third, x.fault(1), y.fault(1));
+                    if (answer >= 0) {
+                        check.same(third + " after " + first + " and " + second, Twins.enums(x), Twins.enums(y));
+                    }
+                }
+            }
+        }
+    }
+
+    private static void load(EnumRules x, String text) {
+        Check.load(x, text);
+        for (int e = 0; e < x.count(0); e++) {
+            x.values(e);
+        }
     }
 
     private static void loadWithFault() {

@@ -1,4 +1,5 @@
 import java.io.IOException;
+import java.lang.reflect.Array;
 import java.lang.reflect.Constructor;
 import java.lang.reflect.Field;
 import java.lang.reflect.Method;
@@ -6,6 +7,8 @@ import java.lang.reflect.Modifier;
 import java.nio.file.Files;
 import java.nio.file.Path;
 import java.util.Arrays;
+import java.util.IdentityHashMap;
+import java.util.Map;
 import java.util.Set;
 import java.util.TreeSet;
 import java.util.regex.Matcher;
@@ -18,10 +21,11 @@ public final class LanguageTest {
         "feed(5)", "end(1)", "load(0)", "fault(1)", "cause(0)", "told(2)", "hasBody(2)", "value(2)", "call(3)", "field(2)",
         "compare(4)", "values(1)", "swap(2)", "hand(1)", "named(1)", "trace(1)", "count(1)", "clear(0)"));
 
-    public static void main(String[] args) throws IOException {
+    public static void main(String[] args) throws IOException, IllegalAccessException {
         face();
         insideClasses();
         source();
+        room();
         check.finish("LanguageTest");
     }
 
@@ -93,5 +97,35 @@ public final class LanguageTest {
             check.holds("only constructors make objects:" + line, !makes || atStart);
         }
         check.holds("bytes are 0 to 127", all.chars().allMatch(c -> c < 128));
+    }
+
+    /** As no call makes anything, the dearest run is one that makes a new object by each of its calls. */
+    private static void room() throws IllegalAccessException {
+        Map<Object, Boolean> seen = new IdentityHashMap<>();
+        long elements = countIn(new EnumRules(), seen);
+        check.holds(seen.size() + " objects, 512 times, have room", seen.size() * 512L <= 600_000);
+        check.holds(elements + " fields and elements, 512 times, have room", elements * 512 <= 7_300_000);
+    }
+
+    private static long countIn(Object it, Map<Object, Boolean> seen) throws IllegalAccessException {
+        if (it == null || seen.put(it, true) != null) {
+            return 0;
+        }
+        if (it.getClass().isArray()) {
+            int length = Array.getLength(it);
+            long many = length;
+            for (int k = 0; k < length && !it.getClass().getComponentType().isPrimitive(); k++) {
+                many += countIn(Array.get(it, k), seen);
+            }
+            return many;
+        }
+        long many = 0;
+        for (Field f : it.getClass().getDeclaredFields()) {
+            if (!Modifier.isStatic(f.getModifiers())) {
+                f.setAccessible(true);
+                many += 1 + (f.getType().isPrimitive() ? 0 : countIn(f.get(it), seen));
+            }
+        }
+        return many;
     }
 }

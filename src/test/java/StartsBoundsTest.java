@@ -477,21 +477,45 @@ public final class StartsBoundsTest {
 
     private static void eightInWork() {
         check.says("also when others want it while it is in work");
-        String ones = Check.times("(1+1*", 8);
+        String text = chain(8, "maker=5;");
+        eightBy("value", text, x -> x.value(0, 1), LINKED);
+        eightBy("call", text, x -> x.call(0, 0, 0), LINKED * 2);
+        eightBy("field", text, x -> x.field(0, 0), LINKED);
+        eightBy("compare", text, x -> x.compare(0, 0, 0, 1), 1);
+        eightBy("values", text, x -> x.values(0), 2);
+        eightBy("named", text, x -> Check.named(x, 0, "Y"), 1);
+        EnumRules second = Check.loaded("enum B{P}" + chain(7, "maker=5;"));
+        check.fails("compare, as the second", second, 0, second.compare(0, 0, 1, 0), 5);
+        check.due("rows", second.count(1), 3 + 7 * 4);
+        EnumRules ring = Check.loaded(chain(8, "maker=A0.X;"));
+        check.fails("a ring of eight", ring, 0, ring.value(0, 0), 1);
+        check.traced("a ring of eight", ring, "0 1000 2000 3000 4000 5000 6000 7000 7200 6200 5200 4200 3200 2200 1200 200");
+        EnumRules last = Check.loaded(chain(8, "maker=1/0;"));
+        check.fails("the eighth fails", last, 0, last.values(0), 2);
+        check.traced("the eighth fails", last, "0 1000 2000 3000 4000 5000 6000 7000 7200 6200 5200 4200 3200 2200 1200 200");
+    }
+
+    /** The innermost one's val, and 9 more by each of the seven around it. */
+    private static final int LINKED = 5 + 7 * 9;
+
+    /** Each wants the next one eight deep in parentheses, with as many operands waiting as there can be. */
+    private static String chain(int many, String innermost) {
         StringBuilder text = new StringBuilder();
-        for (int e = 0; e < 8; e++) {
-            text.append("enum A").append(e).append("{X,Y;");
-            text.append(e < 7 ? "maker=" + ones + "A" + (e + 1) + ".X" + Check.times(")", 8) + ";" : "maker=5;");
-            text.append(e == 0 ? "field f=A0.Y;}" : "field f=A7.X;}");
+        for (int e = 0; e < many; e++) {
+            String next = "1+1*" + Check.times("(1+1*", 8) + "A" + (e + 1) + ".X" + Check.times(")", 8);
+            text.append("enum A").append(e).append("{X,Y;").append(e < many - 1 ? "maker=" + next + ";" : innermost);
+            text.append(e == 0 ? "field f=A0.Y;def m=A0.X+val;}" : "field f=A" + (many - 1) + ".X;}");
         }
-        EnumRules x = Check.loaded(text.toString());
-        check.due("the innermost's val and 8 for each around it", x.field(0, 0), 5 + 7 * 8);
+        return text.toString();
+    }
+
+    private static void eightBy(String what, String text, Twins.Call call, int answer) {
+        EnumRules x = Check.loaded(text);
+        check.due(what, call.on(x), answer);
+        check.due("cause of " + what, x.cause(), 0);
         check.due("rows", x.count(1), 8 * 4);
         check.due("the innermost began", x.trace(7), 7000);
         check.due("the innermost is done", x.trace(10), 7100);
         check.due("the outermost is done", x.trace(31), 100);
-        EnumRules ring = Check.loaded(text.toString().replace("maker=5", "maker=A0.X"));
-        check.fails("a ring of eight", ring, 0, ring.value(0, 0), 1);
-        check.traced("a ring of eight", ring, "0 1000 2000 3000 4000 5000 6000 7000 7200 6200 5200 4200 3200 2200 1200 200");
     }
 }

@@ -26,6 +26,10 @@ public final class TextBoundsTest {
         firstOfOneName();
         givenByItsName();
         firstPlace();
+        otherTokens();
+        missingNames();
+        ninthNested();
+        twentyFirstSign();
         endsTooSoon();
         ninthEnum();
         thirteenthConstant();
@@ -350,6 +354,90 @@ public final class TextBoundsTest {
         }
         due(1, ahead + "|#");
         due(1, "enum A{X |Y}enum A{X Y}#");
+    }
+
+    /** Each token left out, put twice, and another one in its place, against the second reading of the document. */
+    private static void otherTokens() {
+        check.says("FAULT 1: at the first byte or token with which no text goes on");
+        String[] tokens = ALL.split(" ");
+        String[] others = ("{ } ( ) , ; = + - * / . X A q 7 # " + String.join(" ", WORDS)).split(" ");
+        for (int k = 0; k < tokens.length; k++) {
+            String was = tokens[k];
+            tokens[k] = "";
+            asModel(String.join(" ", tokens));
+            tokens[k] = was + " " + was;
+            asModel(String.join(" ", tokens));
+            for (String other : others) {
+                tokens[k] = other;
+                asModel(String.join(" ", tokens));
+                tokens[k] = other + " " + was;
+                asModel(String.join(" ", tokens));
+            }
+            tokens[k] = was;
+        }
+    }
+
+    private static void asModel(String text) {
+        Model model = new Model();
+        for (int at = 0; at < text.length(); at += 20) {
+            model.feed(Check.four(text, at), Check.four(text, at + 4), Check.four(text, at + 8), Check.four(text, at + 12), Check.four(text, at + 16));
+        }
+        model.end(text.length());
+        model.load();
+        check.faultAt(model.fault(0), model.fault(1), text, text);
+    }
+
+    private static void missingNames() {
+        check.says("FAULT 1: at the first byte or token with which no text goes on");
+        due(1, "enum |{X}");
+        due(1, "enum A{X}enum |{X}");
+        due(1, "enum A{X{|=1;}}");
+        due(1, "enum A{X;abstract |;}");
+        due(1, "enum A{X;def |=1;}");
+        due(1, "enum A{X;field |=1;}");
+        due(1, "enum A{X;const |=1;}");
+        due(1, "enum A{|(1)}");
+        due(1, "enum A{|{}}");
+        due(1, "enum A{X{m=|}");
+        due(1, "enum A{X{m=1|}}");
+        due(1, "enum A{X{m|,Y}");
+        due(1, "enum A{X{|;def m=1;}");
+        due(1, "enum A{X(1|,Y}");
+        due(1, "enum A{X;def m=|.X;}");
+        due(1, "enum A{X;def m=A.|;}");
+    }
+
+    private static void ninthNested() {
+        check.says("(the 9th ( or -;");
+        for (String place : EXPS) {
+            String start = place.substring(0, place.indexOf('#'));
+            due(1, start + times("(", 8) + "|");
+            due(1, start + times("(", 8) + "|(");
+            due(1, start + times("(", 8) + "|-");
+            due(1, start + times("(", 8) + "|((((");
+            due(1, start + times("-", 8) + "|");
+            due(1, start + times("-", 8) + "|-");
+            due(1, start + times("-", 8) + "|(#");
+            due(1, start + times("( - \n", 4) + "|( 1");
+            due(1, start + times("(1+", 8) + "|-1");
+            due(1, start + times("(1+", 8) + "1-|-1");
+            due(1, start + times("(1+", 8) + "1" + times(")", 8) + "|)");
+            due(1, start + times("(", 7) + "|#");
+        }
+    }
+
+    private static void twentyFirstSign() {
+        check.says("the 21st sign between two;");
+        for (String place : EXPS) {
+            String start = place.substring(0, place.indexOf('#'));
+            for (String sign : "+ - * /".split(" ")) {
+                due(1, start + "1" + times("-1", 19) + sign + "|");
+                due(1, start + "1" + times("-1", 19) + sign + "1|");
+                due(1, start + "1" + times("-1", 19) + sign + "1|" + sign);
+                due(1, start + "1" + times("-1", 19) + sign + "1\n |" + sign + " 1");
+                due(1, start + "1" + times("-1", 19) + sign + "(1|" + sign + "1);");
+            }
+        }
     }
 
     private static void endsTooSoon() {

@@ -48,45 +48,53 @@ final class Twins {
 
     static String all(EnumRules x) {
         StringBuilder rows = new StringBuilder();
-        addStill(rows, x);
-        addWorked(rows, x);
-        rows.append("load ").append(x.load()).append(' ').append(x.fault(0)).append(' ').append(x.fault(1));
-        rows.append(" count ").append(x.count(0)).append(" told ").append(x.told(0, 0)).append(" value ").append(x.value(0, 0));
-        return rows.toString();
-    }
-
-    /** What can be asked without a change. */
-    private static void addStill(StringBuilder rows, EnumRules x) {
         rows.append("cause ").append(x.cause()).append(" fault ").append(x.fault(0)).append(' ').append(x.fault(1)).append(" counts");
         for (int k = 0; k < 5; k++) {
             rows.append(' ').append(x.count(k));
         }
-        rows.append(" trace ").append(Check.trace(x));
-        for (int e = 0; e < x.count(0); e++) {
-            rows.append(" told");
-            for (int k = 0; k < 5; k++) {
-                rows.append(' ').append(x.told(e, k));
-            }
-            rows.append(" bodies");
-            for (int c = 0; c < x.told(e, 0); c++) {
-                rows.append(' ').append(x.hasBody(e, c));
-            }
-        }
-    }
-
-    private static void addWorked(StringBuilder rows, EnumRules x) {
         rows.append(" hand");
         for (int k = 0; k < x.count(2); k++) {
             rows.append(' ').append(x.hand(k));
         }
+        rows.append(enums(x));
+        rows.append(" load ").append(x.load()).append(' ').append(x.fault(0)).append(' ').append(x.fault(1));
+        rows.append(" count ").append(x.count(0)).append(" told ").append(x.told(0, 0)).append(" value ").append(x.value(0, 0));
+        return rows.toString();
+    }
+
+    /** All that can be asked of the enumerations; those that are not started yet start by it. */
+    static String enums(EnumRules x) {
+        StringBuilder rows = new StringBuilder();
+        rows.append(" enums ").append(x.count(0)).append(" trace ").append(Check.trace(x));
         for (int e = 0; e < x.count(0); e++) {
-            for (int c = 0; c < x.told(e, 0); c++) {
-                rows.append(" value ").append(x.value(e, c)).append(" call ").append(x.call(e, c, 0));
+            addTold(rows, x, e);
+        }
+        for (int e = 0; e < x.count(0); e++) {
+            addWorked(rows, x, e);
+        }
+        return rows.append(" trace ").append(Check.trace(x)).toString();
+    }
+
+    private static void addTold(StringBuilder rows, EnumRules x, int e) {
+        rows.append(" told");
+        for (int k = 0; k < 5; k++) {
+            rows.append(' ').append(x.told(e, k));
+        }
+        rows.append(" bodies");
+        for (int c = 0; c < x.told(e, 0); c++) {
+            rows.append(' ').append(x.hasBody(e, c));
+        }
+    }
+
+    private static void addWorked(StringBuilder rows, EnumRules x, int e) {
+        for (int f = 0; f < x.told(e, 2) + x.told(e, 3); f++) {
+            rows.append(" field ").append(x.field(e, f)).append(" by ").append(x.cause());
+        }
+        for (int c = 0; c < x.told(e, 0); c++) {
+            rows.append(" value ").append(x.value(e, c)).append(" by ").append(x.cause());
+            for (int m = 0; m < x.told(e, 1); m++) {
+                rows.append(" call ").append(x.call(e, c, m)).append(" by ").append(x.cause());
             }
-            for (int f = 0; f < x.told(e, 2) + x.told(e, 3); f++) {
-                rows.append(" field ").append(x.field(e, f));
-            }
-            rows.append(" cause ").append(x.cause());
         }
     }
 }
