@@ -4,6 +4,8 @@ import java.nio.file.Path;
 
 /** What the tests share: rows of answers that are due, and texts brought to the tape. */
 final class Check {
+    /** No place of a text. */
+    static final int NO_FAULT = -1;
     private static final Path DOCUMENT = Path.of("../shared/DOC.md");
     private String document;
     private String sentence = "";

@@ -23,6 +23,7 @@ public final class LanguageTest {
 
     public static void main(String[] args) throws IOException, IllegalAccessException {
         face();
+        faceOfDocument();
         insideClasses();
         source();
         room();
@@ -60,6 +61,22 @@ public final class LanguageTest {
         check.holds("one public constructor", makers.length == 1 && Modifier.isPublic(makers[0].getModifiers())
             && makers[0].getParameterCount() == 0);
         check.holds("final", Modifier.isFinal(EnumRules.class.getModifiers()));
+    }
+
+    /** Word for word, the names of the parameters too. */
+    private static void faceOfDocument() throws IOException {
+        String source = Files.readString(Path.of("src/main/java/EnumRules.java"));
+        String document = Files.readString(Path.of("../shared/DOC.md"));
+        int from = document.indexOf("```java") + 7;
+        int rows = 0;
+        for (String line : document.substring(from, document.indexOf("```", from)).split("\n")) {
+            String row = line.trim();
+            if (row.startsWith("public ")) {
+                rows++;
+                check.holds("the source has: " + row, source.contains(row.endsWith(");") ? row.replace(");", ") {") : row));
+            }
+        }
+        check.due("rows of the document's face", rows, FACE.size() + 3);
     }
 
     private static void insideClasses() {
